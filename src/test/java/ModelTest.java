@@ -2,7 +2,11 @@ import java.util.Random;
 
 /** All promises: runs of random calls, always the same ones, held against the model's answers. */
 final class ModelTest {
-    private static final int RUNS = 1500, CALLS = 250;
+    private static final int RUNS = 6000;
+    /** Nothing is promised of later calls. */
+    private static final int MOST_CALLS = 512;
+    /** More than a step can take, and what is asked at the end of a run. */
+    private static final int KEPT_FOR_A_STEP = 70, KEPT_FOR_THE_END = 28;
     private static final int[] FAR = {Integer.MIN_VALUE, Integer.MAX_VALUE, -100, 100, 1 << 16, -10, 51};
 
     private final Random random;
@@ -10,6 +14,7 @@ final class ModelTest {
     private final Model model = new Model();
     private final Check check;
     private final StringBuilder log = new StringBuilder();
+    private int calls = 0;
 
     private ModelTest(int seed, Check check) {
         this.random = new Random(seed);
@@ -19,32 +24,33 @@ final class ModelTest {
     public static void main(String[] args) {
         Check check = new Check();
         for (int seed = 0; seed < RUNS; seed++) {
-            new ModelTest(seed, check).run(seed);
+            new ModelTest(seed, check).run();
         }
         check.end();
     }
 
-    private void run(int seed) {
-        for (int k = 0; k < CALLS; k++) {
+    private void run() {
+        for (int k = 0; calls < MOST_CALLS - KEPT_FOR_A_STEP - KEPT_FOR_THE_END; k++) {
             if (k == 5 || random.nextInt(60) == 0) {
                 giveText();
+            } else {
+                step(random.nextInt(34));
             }
-            step(random.nextInt(34));
             due("fault", one.fault(), model.fault());
             due("trace", one.trace(), model.trace());
-            for (int what = 0; what < 5; what++) {
-                due("many " + what, one.many(what), model.many(what));
-            }
+            int what = about(0, 4);
+            due("many " + what, one.many(what), model.many(what));
         }
         for (int p = 0; p < 7; p++) {
             for (int what = 0; what < 4; what++) {
                 due("ofPerson " + p + " " + what, one.ofPerson(p, what), model.ofPerson(p, what));
             }
         }
-        log.setLength(0);
+        check.that("at most 512 calls", calls <= MOST_CALLS);
     }
 
     private void due(String call, long got, long want) {
+        calls++;
         if (got != want) {
             System.out.println(log);
         }
